@@ -101,7 +101,8 @@ public final class CoalitionValues {
         if (!isNonEmptyCoalition(coalition)) {
             return BAD_COALITION;
         }
-        // Turning "worth is the sum of own parts" round gives a sum of worths whose sign changes with each player left out.
+        // Turning "worth is the sum of own parts" round gives a sum of worths
+        // whose sign changes with each player left out.
         int sum = 0;
         for (int part = 1; part <= coalition; part++) {
             if ((part & coalition) == part) {
