@@ -104,7 +104,7 @@ public final class CoalitionValues {
         // Turning "worth is the sum of own parts" round gives a sum of worths
         // whose sign changes with each player left out.
         int sum = 0;
-        for (int part = 1; part <= coalition; part++) {
+        for (int part = 1; part < COALITIONS; part++) {
             if ((part & coalition) == part) {
                 boolean evenlyManyLeftOut = (size(coalition ^ part) & 1) == 0;
                 sum += evenlyManyLeftOut ? worths[part] : -worths[part];

@@ -5,7 +5,12 @@ public final class ExchangeTest {
         worthsGoAlong(check);
         anExample(check);
         paymentStays(check);
-        refusesWrongPlayers(check);
+        onePlayerWithItself(check);
+        takesWorthsAtTheEdges(check);
+        paymentStaysAtTheEdges(check);
+        refusesTheFirstOutside(check);
+        refusesTheSecondOutside(check);
+        refusesBothOutside(check);
         check.end();
     }
 
@@ -52,16 +57,76 @@ public final class ExchangeTest {
         }
     }
 
-    private static void refusesWrongPlayers(Check check) {
-        int[] worths = Games.allDifferent();
-        CoalitionValues x = Games.withWorths(worths);
+    /** A player exchanged with itself: both are in 0 to 4, so it is taken, and every place is the same as before. */
+    private static void onePlayerWithItself(Check check) {
+        for (int p = 0; p < 5; p++) {
+            int player = p;
+            Untouched.due(check, "exchange(" + p + ", " + p + ")", x -> x.exchange(player, player), 0);
+        }
+    }
+
+    /** The least and the greatest worth go along as they are, and the empty one keeps 0. */
+    private static void takesWorthsAtTheEdges(Check check) {
+        for (int a = 0; a < 5; a++) {
+            for (int b = 0; b < 5; b++) {
+                Model model = new Model();
+                System.arraycopy(Games.atTheEdges(), 0, model.worths, 0, 32);
+                CoalitionValues x = Games.withWorths(model.worths);
+                String call = "exchange(" + a + ", " + b + ")";
+                model.exchange(a, b);
+                check.due(call + " at the edges", x.exchange(a, b), 0);
+                check.due("the worth of nobody after " + call, Games.worthOfTheEmptyOne(x, model.worths), 0);
+                Games.dueWorths(check, call + " at the edges", x, model.worths);
+            }
+        }
+    }
+
+    /** "the payment stays", also where it is at its edges. */
+    private static void paymentStaysAtTheEdges(Check check) {
+        int[] amounts = {10000, -10000, 9999, -9999, 0};
+        for (int a = 0; a < 5; a++) {
+            for (int b = 0; b < 5; b++) {
+                for (int p = 0; p < 5; p++) {
+                    CoalitionValues x = Games.withWorths(Games.atTheEdges());
+                    Games.payAll(x, amounts);
+                    x.exchange(a, b);
+                    check.due("the amount of player " + p + " after exchange(" + a + ", " + b + ")",
+                            Games.amountOf(x, p), amounts[p]);
+                }
+            }
+        }
+    }
+
+    /** "a [...] not in 0 to 4: BAD_PLAYER, nothing changes". */
+    private static void refusesTheFirstOutside(Check check) {
         for (int bad : Games.BAD_PLAYERS) {
             for (int good = 0; good < 5; good++) {
-                check.due("exchange(" + bad + ", " + good + ")", x.exchange(bad, good), CoalitionValues.BAD_PLAYER);
-                check.due("exchange(" + good + ", " + bad + ")", x.exchange(good, bad), CoalitionValues.BAD_PLAYER);
+                int b = good;
+                Untouched.due(check, "exchange(" + bad + ", " + b + ")",
+                        x -> x.exchange(bad, b), CoalitionValues.BAD_PLAYER);
             }
-            check.due("exchange(" + bad + ", " + bad + ")", x.exchange(bad, bad), CoalitionValues.BAD_PLAYER);
         }
-        Games.dueWorths(check, "after wrong exchanges", x, worths);
+    }
+
+    /** "[...] or b not in 0 to 4: BAD_PLAYER, nothing changes". */
+    private static void refusesTheSecondOutside(Check check) {
+        for (int good = 0; good < 5; good++) {
+            int a = good;
+            for (int bad : Games.BAD_PLAYERS) {
+                Untouched.due(check, "exchange(" + a + ", " + bad + ")",
+                        x -> x.exchange(a, bad), CoalitionValues.BAD_PLAYER);
+            }
+        }
+    }
+
+    /** Both outside, the same twice among them. */
+    private static void refusesBothOutside(Check check) {
+        for (int bad : Games.BAD_PLAYERS) {
+            int[] others = {-1, 5, bad, Integer.MIN_VALUE, Integer.MAX_VALUE};
+            for (int other : others) {
+                Untouched.due(check, "exchange(" + bad + ", " + other + ")",
+                        x -> x.exchange(bad, other), CoalitionValues.BAD_PLAYER);
+            }
+        }
     }
 }

@@ -1,7 +1,22 @@
 /** Ways to set up an object and to read its state through its public face. */
 final class Games {
-    static final int[] BAD_PLAYERS = {-1, 5, 6, 31, 32, 37, -32, 1000, Integer.MIN_VALUE, Integer.MAX_VALUE};
-    static final int[] BAD_COALITIONS = {0, -1, 32, 33, 63, -31, 1000, Integer.MIN_VALUE, Integer.MAX_VALUE};
+    // Each begins with the two just outside, and ends with the least and the greatest int. Between them stand
+    // numbers that would pass as good ones if they were cut to fewer bits, or shifted by.
+    static final int[] BAD_PLAYERS = {-1, 5,
+            6, 7, 8, 31, 32, 33, 36, -4, -5, -28, -31, -32, 64, 256, 260, 65536, 65540, 1 << 30,
+            Integer.MIN_VALUE + 1, Integer.MAX_VALUE - 1, Integer.MIN_VALUE, Integer.MAX_VALUE};
+    static final int[] BAD_COALITIONS = {0, 32,
+            -1, 33, 63, 64, -31, -32, 256, 257, 256 + 31, 65536, 65537, 65536 + 31, 1 << 30,
+            Integer.MIN_VALUE + 1, Integer.MAX_VALUE - 1, Integer.MIN_VALUE, Integer.MAX_VALUE};
+    static final int[] BAD_WORTHS = {-1001, 1001,
+            -1002, 1002, 2000, -2000, 10000, -10000, 65536, 65536 + 5, 65536 - 5, -65536, 1 << 24, 1 << 30,
+            Integer.MIN_VALUE + 1, Integer.MAX_VALUE - 1, Integer.MIN_VALUE, Integer.MAX_VALUE};
+    static final int[] BAD_AMOUNTS = {-10001, 10001,
+            -10002, 10002, 20000, -20000, 65536, 65536 + 5, 65536 - 5, -65536, 1 << 24, 1 << 30,
+            Integer.MIN_VALUE + 1, Integer.MAX_VALUE - 1, Integer.MIN_VALUE, Integer.MAX_VALUE};
+    static final int[] BAD_QUOTAS = {0, 76,
+            -1, 77, 100, 128, -75, -76, 256, 257, 256 + 75, 65536, 65537, 65536 + 75, 1 << 30,
+            Integer.MIN_VALUE + 1, Integer.MAX_VALUE - 1, Integer.MIN_VALUE, Integer.MAX_VALUE};
 
     private Games() {
     }
@@ -35,6 +50,15 @@ final class Games {
         }
     }
 
+    /** What the empty coalition counts in the margins, when the other worths are these. 1 call. */
+    static int worthOfTheEmptyOne(CoalitionValues x, int[] worths) {
+        int without = 0;
+        for (int s = 1; s < 32; s++) {
+            without += (s & 1) != 0 ? worths[s] : -worths[s];
+        }
+        return without - x.swingValue(0);
+    }
+
     /**
      * All amounts must be these, each from -100 to 100; the worths are lost. 41 calls.
      * One coalition of a single player has a worth so high that the greatest complaint is its own.
@@ -50,11 +74,36 @@ final class Games {
         }
     }
 
+    /**
+     * Any amount that may be; the worths and the other amounts are lost. 36 calls.
+     * The others are paid so much that no coalition complains more than this player alone.
+     */
+    static int amountOf(CoalitionValues x, int player) {
+        for (int s = 1; s < 32; s++) {
+            x.worth(s, s == 1 << player ? 1000 : -1000);
+        }
+        for (int p = 0; p < 5; p++) {
+            if (p != player) {
+                x.pay(p, 10000);
+            }
+        }
+        return 1000 - x.complaint();
+    }
+
     /** Worths that all differ, so that a worth in the wrong place is seen. */
     static int[] allDifferent() {
         int[] worths = new int[32];
         for (int s = 1; s < 32; s++) {
             worths[s] = (s * 37) % 101 * 7 - 300;
+        }
+        return worths;
+    }
+
+    /** The least and the greatest worth, in a pattern that no exchange of two players keeps. */
+    static int[] atTheEdges() {
+        int[] worths = new int[32];
+        for (int s = 1; s < 32; s++) {
+            worths[s] = s * 5 % 11 < 6 ? 1000 : -1000;
         }
         return worths;
     }

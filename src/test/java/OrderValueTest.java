@@ -4,7 +4,10 @@ public final class OrderValueTest {
         Check check = new Check();
         oneWorthAtATime(check);
         examples(check);
-        refusesWrongPlayers(check);
+        comesFirstAndLast(check);
+        greatestAndLeast(check);
+        answersNextToTheConstants(check);
+        refusesPlayersOutside(check);
         check.end();
     }
 
@@ -33,23 +36,53 @@ public final class OrderValueTest {
         check.due("orderValue(2) of an additive game", y.orderValue(2), 3600);
         check.due("orderValue(3) of an additive game", y.orderValue(3), 0);
         check.due("orderValue(4) of an additive game", y.orderValue(4), -12000);
-        greatestAndLeast(check, 1000, 240000);
-        greatestAndLeast(check, -1000, -240000);
     }
 
-    private static void greatestAndLeast(Check check, int worthWithTwo, int due) {
-        int[] worths = new int[32];
-        for (int s = 1; s < 32; s++) {
-            worths[s] = (s & 4) != 0 ? worthWithTwo : -worthWithTwo;
+    /** "at the set of those who came before": nobody came before in 24 orders, and nobody comes after in 24. */
+    private static void comesFirstAndLast(Check check) {
+        for (int p = 0; p < 5; p++) {
+            CoalitionValues first = new CoalitionValues();
+            first.worth(1 << p, 7);
+            check.due("orderValue(" + p + ") that gains when first", first.orderValue(p), 24 * 7);
+            CoalitionValues last = new CoalitionValues();
+            last.worth(31 - (1 << p), 7);
+            check.due("orderValue(" + p + ") that loses when last", last.orderValue(p), -24 * 7);
+            last.worth(31, 7);
+            check.due("orderValue(" + p + ") that loses nothing when last", last.orderValue(p), 0);
         }
-        // At the empty coalition the margin is half as great, in 24 of the orders.
-        check.due("orderValue(2) at its edge", Games.withWorths(worths).orderValue(2), due - 24 * worthWithTwo);
     }
 
-    private static void refusesWrongPlayers(Check check) {
-        CoalitionValues x = Games.withWorths(Games.allDifferent());
+    /** The greatest and the least that worths in -1000 to 1000 can give; first of all the margin is at the empty 0. */
+    private static void greatestAndLeast(Check check) {
+        for (int p = 0; p < 5; p++) {
+            int[] worths = new int[32];
+            int[] turned = new int[32];
+            for (int s = 1; s < 32; s++) {
+                worths[s] = (s >> p & 1) != 0 ? 1000 : -1000;
+                turned[s] = -worths[s];
+            }
+            check.due("the greatest orderValue(" + p + ")", Games.withWorths(worths).orderValue(p), 216000);
+            check.due("the least orderValue(" + p + ")", Games.withWorths(turned).orderValue(p), -216000);
+        }
+    }
+
+    /**
+     * "(Answers may equal BAD_PLAYER.)" The weights 24, 6 and 4 are even, so -3 itself cannot come;
+     * the answers next to it, and those equal to other constants, come like any other.
+     */
+    private static void answersNextToTheConstants(Check check) {
+        CoalitionValues x = new CoalitionValues();
+        x.worth(7, -1);
+        check.due("orderValue(0), next to BAD_PLAYER", x.orderValue(0), -4);
+        x.worth(7, 1);
+        x.worth(3, -1);
+        check.due("orderValue(0), equal to BAD_WORTH", x.orderValue(0), -2);
+    }
+
+    /** Terms: "A player not in 0 to 4 is BAD_PLAYER", and the call changes nothing. */
+    private static void refusesPlayersOutside(Check check) {
         for (int bad : Games.BAD_PLAYERS) {
-            check.due("orderValue(" + bad + ")", x.orderValue(bad), CoalitionValues.BAD_PLAYER);
+            Untouched.due(check, "orderValue(" + bad + ")", x -> x.orderValue(bad), CoalitionValues.BAD_PLAYER);
         }
     }
 }
