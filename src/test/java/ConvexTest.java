@@ -9,7 +9,10 @@ public final class ConvexTest {
         check.end();
     }
 
-    /** "is at least the sum": in an additive game both sides are always equal, so any change of one worth breaks it, but for more to all five. */
+    /**
+     * "is at least the sum": in an additive game both sides are always equal,
+     * so any change of one worth breaks it, but for more to all five.
+     */
     private static void everyPairCounts(Check check) {
         int[] worths = Games.additive(new int[] {5, -7, 11, 0, -2});
         check.due("convex() of an additive game", Games.withWorths(worths).convex(), true);

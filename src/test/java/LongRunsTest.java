@@ -59,7 +59,9 @@ public final class LongRunsTest {
             case 3:
             case 4: {
                 int p = between(-1, 5);
-                int amount = kind == 0 ? between(-10050, 10050) : p >= 0 && p < 5 ? model.amounts[p] + between(-1, 1) : 0;
+                int amount = kind == 0 ? between(-10050, 10050)
+                        : p >= 0 && p < 5 ? model.amounts[p] + between(-1, 1)
+                        : 0;
                 duePay(p, amount);
                 break;
             }

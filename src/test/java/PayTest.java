@@ -28,7 +28,7 @@ public final class PayTest {
         Games.dueWorths(check, "after pay", y, worths);
     }
 
-    /** "player [...] in 0 to 4": the least, the greatest and all between are taken, with 0 for an answer. */
+    /** Within "0 to 4" the least player, the greatest and all between are taken: "Else answers 0". */
     private static void takesEveryPlayer(Check check) {
         for (int p = 0; p < 5; p++) {
             int[] tried = {0, 1, -1, -2, -3, 42, 0};
@@ -41,7 +41,7 @@ public final class PayTest {
         }
     }
 
-    /** "amount [...] in -10000 to 10000": the least and the greatest are taken, and the ones next to them. */
+    /** Within "-10000 to 10000" the least amount and the greatest are taken, and the ones next to them. */
     private static void takesTheEdges(Check check) {
         int[] edges = {-10000, -9999, -5000, -1, 0, 1, 5000, 9999, 10000};
         for (int p = 0; p < 5; p++) {

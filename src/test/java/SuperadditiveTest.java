@@ -30,7 +30,10 @@ public final class SuperadditiveTest {
         }
     }
 
-    /** Each of the two is worth 10 to any coalition that holds it, others lose: only this pair's union can fall short. */
+    /**
+     * Each of the two is worth 10 to any coalition that holds it, others lose:
+     * only this pair's union can fall short.
+     */
     private static void onePairAtItsBorder(Check check, int s, int t) {
         int[] worths = new int[32];
         for (int u = 1; u < 32; u++) {

@@ -48,7 +48,7 @@ public final class WeighTest {
         }
     }
 
-    /** "quota [...] in 1 to 75": the least and the greatest are taken. */
+    /** Within "1 to 75" the least quota and the greatest are taken. */
     private static void takesTheLeastAndTheGreatestQuota(Check check) {
         CoalitionValues x = new CoalitionValues();
         check.due("weigh(0x10000, 1)", x.weigh(0x10000, 1), 16);

@@ -27,7 +27,7 @@ public final class WorthTest {
         Games.dueAmounts(check, "after worth", y, new int[5]);
     }
 
-    /** "coalition [...] in 1 to 31": the least, the greatest and all between are taken, and set that one alone. */
+    /** Within "1 to 31" the least coalition, the greatest and all between are taken, and set that one alone. */
     private static void takesEveryCoalition(Check check) {
         for (int s = 1; s < 32; s++) {
             int[] worths = Games.allDifferent();
@@ -38,7 +38,7 @@ public final class WorthTest {
         }
     }
 
-    /** "worth [...] in -1000 to 1000": each of them is taken. */
+    /** Within "-1000 to 1000" each worth is taken. */
     private static void takesEveryWorth(Check check) {
         for (int worth = -1000; worth <= 1000; worth++) {
             int coalition = worth % 2 == 0 ? 1 : 31;
