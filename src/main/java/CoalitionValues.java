@@ -10,10 +10,12 @@ public final class CoalitionValues {
     private static final int MOST_AMOUNT = 10000;
     private static final int MOST_QUOTA = 75;
 
-    // Indexed by the coalition's mask; place 0, the empty coalition, is never given another worth than 0.
+    // Indexed by the coalition's mask; place 0, the empty coalition,
+    // is never given another worth than 0.
     private final int[] worths = new int[COALITIONS];
     private final int[] amounts = new int[PLAYERS];
-    // Working room of bestSplit alone, since a method may not make an array; it carries nothing from call to call.
+    // Working room of bestSplit alone, since a method may not make an array;
+    // it carries nothing from call to call.
     private final int[] bestTotals = new int[COALITIONS];
 
     public CoalitionValues() {
@@ -59,7 +61,8 @@ public final class CoalitionValues {
         if (!isPlayer(a) || !isPlayer(b)) {
             return BAD_PLAYER;
         }
-        // A coalition with both players or neither is its own image, so only those with a alone meet a partner.
+        // A coalition with both players or neither is its own image,
+        // so only those with a and without b meet a partner.
         for (int coalition = 1; coalition < COALITIONS; coalition++) {
             if (has(coalition, a) && !has(coalition, b)) {
                 int image = coalition ^ (1 << a) ^ (1 << b);
@@ -172,7 +175,8 @@ public final class CoalitionValues {
     }
 
     public int bestSplit() {
-        // Every part of a coalition has a smaller mask, so its best total stands before it is asked for.
+        // Every part of a coalition has a smaller mask,
+        // so its best total stands before it is asked for.
         for (int coalition = 1; coalition < COALITIONS; coalition++) {
             bestTotals[coalition] = bestTotalFromParts(coalition);
         }

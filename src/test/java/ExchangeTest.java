@@ -57,7 +57,7 @@ public final class ExchangeTest {
         }
     }
 
-    /** A player exchanged with itself: both are in 0 to 4, so it is taken, and every place is the same as before. */
+    /** "Else answers 0.": a player exchanged with itself is in 0 to 4 too, and every place is the same as before. */
     private static void onePlayerWithItself(Check check) {
         for (int p = 0; p < 5; p++) {
             int player = p;

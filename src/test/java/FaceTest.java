@@ -39,7 +39,29 @@ public final class FaceTest {
         for (String member : found) {
             check.due("may have " + member, due.contains(member), true);
         }
+        namesAreNotShared(check);
+        staticsAreConstants(check);
+        check.due("nested classes", CoalitionValues.class.getDeclaredClasses().length, 0);
         check.end();
+    }
+
+    /** Rule 1: "No private method bears the name of a public one." */
+    private static void namesAreNotShared(Check check) {
+        Set<String> names = new TreeSet<>();
+        for (Method method : CoalitionValues.class.getDeclaredMethods()) {
+            check.due("the name " + method.getName() + " stands once", names.add(method.getName()), true);
+        }
+    }
+
+    /** Rule 5: "Static fields are compile-time constants of int or long alone." */
+    private static void staticsAreConstants(Check check) {
+        for (Field field : CoalitionValues.class.getDeclaredFields()) {
+            if (Modifier.isStatic(field.getModifiers())) {
+                boolean constant = Modifier.isFinal(field.getModifiers())
+                        && (field.getType() == int.class || field.getType() == long.class);
+                check.due(field.getName() + " is a constant of int or long", constant, true);
+            }
+        }
     }
 
     private static Set<String> found() {

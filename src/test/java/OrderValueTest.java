@@ -1,8 +1,12 @@
+import java.util.Arrays;
+
 /** Promise 6: orderValue. */
 public final class OrderValueTest {
     public static void main(String[] args) {
         Check check = new Check();
         oneWorthAtATime(check);
+        orderByOrder(check, Games.allDifferent());
+        orderByOrder(check, Games.atTheEdges());
         examples(check);
         comesFirstAndLast(check);
         greatestAndLeast(check);
@@ -21,6 +25,28 @@ public final class OrderValueTest {
                 check.due("orderValue(" + p + ") with only the worth of " + s,
                         x.orderValue(p), model.orderValue(p));
             }
+        }
+    }
+
+    /** "over all 120 orders in which the five may come one after the other": each order is gone through by itself. */
+    private static void orderByOrder(Check check, int[] worths) {
+        int[] sums = new int[5];
+        int orders = 0;
+        for (int way = 0; way < 3125; way++) {
+            int[] order = {way % 5, way / 5 % 5, way / 25 % 5, way / 125 % 5, way / 625};
+            if (Arrays.stream(order).distinct().count() == 5) {
+                orders++;
+                int before = 0;
+                for (int p : order) {
+                    sums[p] += worths[before | 1 << p] - worths[before];
+                    before |= 1 << p;
+                }
+            }
+        }
+        check.due("the number of orders", orders, 120);
+        CoalitionValues x = Games.withWorths(worths);
+        for (int p = 0; p < 5; p++) {
+            check.due("orderValue(" + p + ") order by order", x.orderValue(p), sums[p]);
         }
     }
 
